@@ -14,13 +14,13 @@ public final class FairWheel {
     private static final int FINE = 0;
 
     private final Wheel wheel = new Wheel();
-    /** Every question is tried out on this copy, so that no call has to make a wheel of its own. */
+    /** Questions are tried out on this copy, so that no call has to make a wheel of its own. */
     private final Wheel trial = new Wheel();
     private final Pad pad = new Pad();
     private final Sights sights = new Sights();
-    private final Telling telling = new Telling(trial);
-    private final Seating seating = new Seating(trial);
-    private final Turns turns = new Turns(trial);
+    private final Telling telling = new Telling();
+    private final Seating seating = new Seating();
+    private final Turns turns = new Turns();
     private final Image firstImage = new Image();
     private final Image secondImage = new Image();
 
@@ -45,8 +45,8 @@ public final class FairWheel {
         if (v < 0 || v > MOST_DRAG) {
             return OUTSIDE;
         }
-        int before = wheel.hold();
-        wheel.setHold(v);
+        int before = wheel.friction();
+        wheel.setFriction(v);
         return before;
     }
 
@@ -81,8 +81,7 @@ public final class FairWheel {
         if (refusal != FINE) {
             return refusal;
         }
-        trial.copyFrom(wheel);
-        telling.tell(pad, NONE, 0);
+        telling.tell(wheel, pad, NONE, 0);
         return what == 0 ? telling.failedEvent() : telling.reason();
     }
 
@@ -91,7 +90,7 @@ public final class FairWheel {
         if (refusal != FINE) {
             return refusal;
         }
-        wheel.copyFrom(trial);
+        wheel.copyFrom(telling.wheel());
         int events = pad.length();
         pad.clear();
         return events;
@@ -127,9 +126,9 @@ public final class FairWheel {
             return refusal;
         }
         if (what == 0) {
-            return trial.lowest();
+            return telling.wheel().lowest();
         }
-        return what == 1 ? trial.pullNow() + PULL_SHIFT : telling.turned() + TURN_SHIFT;
+        return what == 1 ? telling.wheel().pullNow() + PULL_SHIFT : telling.turned() + TURN_SHIFT;
     }
 
     public int leftOut(int i) {
@@ -137,7 +136,7 @@ public final class FairWheel {
         if (refusal != FINE) {
             return refusal;
         }
-        int lowest = trial.lowest();
+        int lowest = telling.wheel().lowest();
         int found = 0;
         for (int event = 0; event < pad.length(); event++) {
             if (canBeLeftOut(event, lowest)) {
@@ -210,8 +209,7 @@ public final class FairWheel {
         if (Integer.bitCount(set) > MOST_SEATED) {
             return FULL;
         }
-        trial.copyFrom(wheel);
-        int ways = seating.count(set);
+        int ways = seating.count(wheel, set);
         if (person == -1) {
             return ways;
         }
@@ -309,8 +307,7 @@ public final class FairWheel {
         if (seed < 0 || seed > MOST_SEED || m < 1 || m > MOST_TURNS) {
             return OUTSIDE;
         }
-        trial.copyFrom(wheel);
-        turns.take(seed, m);
+        turns.take(wheel, seed, m);
         return car == -1 ? turns.turned() : turns.timesLowest(car);
     }
 
@@ -345,7 +342,7 @@ public final class FairWheel {
             case 0:
                 return pad.length();
             case 1:
-                return wheel.hold();
+                return wheel.friction();
             case 2:
                 return sights.count();
             case 3:
@@ -407,22 +404,20 @@ public final class FairWheel {
         return pad.asked() > 0 ? STATE : FINE;
     }
 
-    /** Tells the text on the trial wheel, which is left as it is behind the text. */
+    /** The text is told then, if it is not refused. */
     private int refuseEvening() {
         int refusal = refuseText();
         if (refusal != FINE) {
             return refusal;
         }
-        trial.copyFrom(wheel);
-        return telling.tell(pad, NONE, 0) ? FINE : NO;
+        return telling.tell(wheel, pad, NONE, 0) ? FINE : NO;
     }
 
     private boolean canBeLeftOut(int event, int lowest) {
         if (Pad.isMotion(pad.signAt(event))) {
             return false;
         }
-        trial.copyFrom(wheel);
-        return telling.tell(pad, event, 0) && trial.lowest() == lowest;
+        return telling.tell(wheel, pad, event, 0) && telling.wheel().lowest() == lowest;
     }
 
     private int tellMove(int move, int what) {
@@ -435,12 +430,11 @@ public final class FairWheel {
     private boolean endsAt(int person, int weight, int car) {
         trial.copyFrom(wheel);
         trial.setWeight(person, weight);
-        return telling.tell(pad, NONE, 0) && trial.lowest() == car;
+        return telling.tell(trial, pad, NONE, 0) && telling.wheel().lowest() == car;
     }
 
     private boolean holds(int filling) {
-        trial.copyFrom(wheel);
-        return telling.tell(pad, NONE, filling) && sights.hold(trial);
+        return telling.tell(wheel, pad, NONE, filling) && sights.areTrue(telling.wheel());
     }
 
     /** The wheel itself: who weighs what, who sits where, and how it turns. */
@@ -453,7 +447,7 @@ public final class FairWheel {
         private final int[] riders = new int[CARS];
         private final int[] loads = new int[CARS];
         private int lowest = 0;
-        private int hold = FIRST_DRAG;
+        private int friction = FIRST_DRAG;
 
         Wheel() {
             Arrays.fill(weights, FIRST_WEIGHT);
@@ -467,7 +461,7 @@ public final class FairWheel {
             copyRow(other.riders, riders);
             copyRow(other.loads, loads);
             lowest = other.lowest;
-            hold = other.hold;
+            friction = other.friction;
         }
 
         /** Nobody and no pebbles are on it any more; weights and drag stay. */
@@ -485,12 +479,12 @@ public final class FairWheel {
             put(weights, person, v);
         }
 
-        int hold() {
-            return hold;
+        int friction() {
+            return friction;
         }
 
-        void setHold(int v) {
-            hold = v;
+        void setFriction(int v) {
+            friction = v;
         }
 
         int lowest() {
@@ -603,10 +597,10 @@ public final class FairWheel {
 
         /** Whither such a pull turns it: 1 on, -1 back, 0 if it stands. */
         private int wayOf(int pull) {
-            if (pull > hold) {
+            if (pull > friction) {
                 return 1;
             }
-            return pull < -hold ? -1 : 0;
+            return pull < -friction ? -1 : 0;
         }
     }
 
@@ -707,7 +701,7 @@ public final class FairWheel {
             count = 0;
         }
 
-        boolean hold(Wheel wheel) {
+        boolean areTrue(Wheel wheel) {
             for (int i = 0; i < count; i++) {
                 if (wheel.carOf(at(people, i)) != at(cars, i)) {
                     return false;
@@ -733,11 +727,11 @@ public final class FairWheel {
         }
     }
 
-    /** A text told, event by event, on the wheel that it was made with. */
+    /** A text told, event by event, on a wheel of its own. */
     private static final class Telling {
         private static final int ABOARD = 1, TAKEN = 2, ABSENT = 3, HEAVY = 4;
 
-        private final Wheel wheel;
+        private final Wheel wheel = new Wheel();
         private int failedEvent = NONE;
         private int reason = NONE;
         private int turned = 0;
@@ -745,8 +739,12 @@ public final class FairWheel {
         private int asked = 0;
         private int askedBefore = 0;
 
-        Telling(Wheel wheel) {
-            this.wheel = wheel;
+        Telling() {
+        }
+
+        /** The wheel as it is behind the text, or behind what could be of it. */
+        Wheel wheel() {
+            return wheel;
         }
 
         int failedEvent() {
@@ -762,7 +760,8 @@ public final class FairWheel {
         }
 
         /** Tells all events but the one left out (NONE: all), up to the first that can not be; whether all can be. */
-        boolean tell(Pad pad, int left, int people) {
+        boolean tell(Wheel start, Pad pad, int left, int people) {
+            wheel.copyFrom(start);
             failedEvent = NONE;
             reason = NONE;
             turned = 0;
@@ -889,24 +888,33 @@ public final class FairWheel {
 
     /** Ways to seat people so that the wheel stands wherever it is turned to. */
     private static final class Seating {
-        private final Wheel wheel;
+        private final Wheel wheel = new Wheel();
         private final int[] firstCars = new int[PEOPLE];
         private boolean found = false;
 
-        Seating(Wheel wheel) {
-            this.wheel = wheel;
+        Seating() {
         }
 
         /** The least person is tried in car 0 alone: turned seatings stand alike, and the first has him there. */
-        int count(int set) {
+        int count(Wheel start, int set) {
             found = false;
+            wheel.copyFrom(start);
             wheel.clear();
-            int least = Integer.numberOfTrailingZeros(set);
-            if (!isPerson(least)) {
-                return search(this, 0, PEOPLE);
+            int least = leastOf(set);
+            if (least == NONE) {
+                return settle();
             }
             wheel.seat(least, 0);
             return CARS * search(this, set, least + 1);
+        }
+
+        private static int leastOf(int set) {
+            for (int person = 0; person < PEOPLE; person++) {
+                if (isOf(set, person)) {
+                    return person;
+                }
+            }
+            return NONE;
         }
 
         int carInFirst(int person) {
@@ -932,7 +940,7 @@ public final class FairWheel {
         }
 
         private int settle() {
-            if (wheel.greatestPull() > wheel.hold()) {
+            if (wheel.greatestPull() > wheel.friction()) {
                 return 0;
             }
             if (!found) {
@@ -1001,16 +1009,15 @@ public final class FairWheel {
         }
     }
 
-    /** A year's turns, on the wheel that it was made with. */
+    /** A year's turns, on a wheel of their own. */
     private static final class Turns {
         private static final int TIMES = 75, MORE = 74, MODULUS = 65537;
 
-        private final Wheel wheel;
+        private final Wheel wheel = new Wheel();
         private final int[] timesLowest = new int[CARS];
         private int turned = 0;
 
-        Turns(Wheel wheel) {
-            this.wheel = wheel;
+        Turns() {
         }
 
         int turned() {
@@ -1021,7 +1028,8 @@ public final class FairWheel {
             return at(timesLowest, car);
         }
 
-        void take(int seed, int turns) {
+        void take(Wheel start, int seed, int turns) {
+            wheel.copyFrom(start);
             turned = 0;
             Arrays.fill(timesLowest, 0);
             int x = seed;

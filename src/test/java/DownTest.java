@@ -8,6 +8,8 @@ public final class DownTest {
         downOfWhoIsThere();
         downByThreeMoves();
         downByGettingOut();
+        downByStaying();
+        downByNoMoreThanThree();
         downTakesTheFirst();
         downMayGetInAgain();
         downRefuses();
@@ -84,6 +86,26 @@ public final class DownTest {
         downIs(x, 1, 1, 1, FairWheel.NONE);
         x.weigh(5, 1);
         downIs(x, 1, 1, 1, 5);
+    }
+
+    /** All others are so heavy that they would hold the wheel: nobody may get in. */
+    private static void downByStaying() {
+        FairWheel x = new FairWheel();
+        for (int person = 0; person < 8; person++) {
+            x.weigh(person, person == 1 ? 60 : 99);
+        }
+        Check.tell(x, "B<<");
+        downIs(x, 1, 1, 0, FairWheel.NONE);
+    }
+
+    private static void downByNoMoreThanThree() {
+        FairWheel x = new FairWheel();
+        x.weigh(6, 30);
+        Check.tell(x, "A>>B>>>C>>");
+        // PlainWheel brings C down by four moves
+        downIs(x, 2, FairWheel.NONE, FairWheel.NONE, FairWheel.NONE);
+        // with A at the foot B and C pull 30: D holds it
+        downIs(x, 0, 1, 0, 3);
     }
 
     private static void downTakesTheFirst() {

@@ -11,7 +11,7 @@ public final class LanguageTest {
         "->", "::", "\\btry\\b", "\\bcatch\\b", "\\bfinally\\b", "\\bthrow\\b", "\\bthrows\\b", "\\bsynchronized\\b",
         "\\bassert\\b", "\\bwhile \\(true", "for \\(;;", "\\bpackage\\b", "\\bnull\\b", "\\binstanceof\\b",
         "Exact\\(", "\\bSystem\\.(?!arraycopy)", "\\bArrays\\.(?!fill\\(|copyOf)", "\\bRandom\\b", "\\bThread\\b",
-        "\\bprotected\\b", "\\bString\\b", "\\bobject\\.equals\\b"};
+        "\\bprotected\\b", "\\bString\\b"};
 
     private LanguageTest() {
     }

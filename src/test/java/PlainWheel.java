@@ -176,6 +176,11 @@ final class PlainWheel {
         return pad.indexOf("?") < 0 && fault() == NONE && tale(ring, pad.toString() + sign).event == NONE;
     }
 
+    /** Who is in a car behind the text, which can be. */
+    int whoIsBehind(int car) {
+        return tale(ring, pad.toString()).ring.who(car);
+    }
+
     int weigh(int person, int v) {
         if (!eight(person)) {
             return UNKNOWN;

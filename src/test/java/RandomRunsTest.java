@@ -1,6 +1,6 @@
 /** Long runs of drawn calls, each answer held against PlainWheel's. The draws are the same each time. */
 public final class RandomRunsTest {
-    private static final int RUNS = 400, CALLS = 500;
+    private static final int RUNS = 200, CALLS = 500, WHEELS = 250;
     private static final String SIGNS = "ABCDEFGHabcdefgh0123456789^^^^^^>>>><<<<";
 
     private long state;
@@ -14,13 +14,20 @@ public final class RandomRunsTest {
         return (int) ((state >>> 33) % below);
     }
 
+    /** Mostly from the first to the last, at times one beyond. */
     private int near(int first, int last) {
-        return first - 1 + draw(last - first + 3);
+        if (draw(12) == 0) {
+            return draw(2) == 0 ? first - 1 : last + 1;
+        }
+        return first + draw(last - first + 1);
     }
 
     public static void main(String[] args) {
         for (int run = 0; run < RUNS; run++) {
             new RandomRunsTest(run * 7919L + 17).run(run);
+        }
+        for (int wheel = 0; wheel < WHEELS; wheel++) {
+            new RandomRunsTest(wheel * 104729L + 5).ask(RUNS + wheel);
         }
         Check.end();
     }
@@ -146,14 +153,114 @@ public final class RandomRunsTest {
         return due(run, "balance " + set + " " + person, x.balance(set, person), y.balance(set, person));
     }
 
-    /** A text with a few that are not told, and sights that are mostly so. */
-    private int drawFilled(int run, FairWheel x, PlainWheel y) {
-        String[] texts = {"?", "?>?", "?^>?^", "A>?>^?", "?>>?>^>?^", "5?>^?", "??", "?a>?^", "?>?>?>?", "?<B<?^<?", "^?^>?^>?^"};
-        String text = texts[draw(texts.length)];
+    /** A wheel that is filled as drawn is asked all that is dear. */
+    private void ask(int run) {
+        FairWheel x = new FairWheel();
+        PlainWheel y = new PlainWheel();
+        fill(run, x, y);
+        for (int person = 0; person < 8; person++) {
+            due(run, "pebbles " + person, x.pebbles(person), y.pebbles(person));
+            for (int what = 0; what < 3; what++) {
+                due(run, "down " + person + " " + what, x.down(person, what), y.down(person, what));
+            }
+            for (int m = 0; m < 4; m++) {
+                due(run, "chance " + person + " " + m, x.chance(person, m, 0), y.chance(person, m, 0));
+                due(run, "chance " + person + " " + m, x.chance(person, m, 1), y.chance(person, m, 1));
+            }
+        }
+        due(run, "brake", x.brake(), y.brake());
+        drawBalance(run, x, y);
+        int seed = draw(10000);
+        int turns = 1 + draw(99);
+        for (int car = -1; car < 8; car++) {
+            due(run, "year " + seed + " " + turns + " " + car, x.year(seed, turns, car), y.year(seed, turns, car));
+        }
+        askTexts(run, x, y);
+    }
+
+    /** Who sits where and which pebbles are there is written car by car; the wheel is not let go for that. */
+    private void fill(int run, FairWheel x, PlainWheel y) {
+        for (int person = 0; person < 8; person++) {
+            int v = draw(4) == 0 ? 1 + draw(99) : 5 + draw(12);
+            due(run, "weigh " + person + " " + v, x.weigh(person, v), y.weigh(person, v));
+        }
+        int d = draw(3) == 0 ? draw(150) : draw(25);
+        due(run, "drag " + d, x.drag(d), y.drag(d));
+        StringBuilder text = new StringBuilder();
+        StringBuilder left = new StringBuilder("ABCDEFGH");
+        int taken = 1 + draw(8);
+        for (int car = 0; car < 8; car++) {
+            if (draw(8) < taken) {
+                int i = draw(left.length());
+                text.append(left.charAt(i));
+                left.deleteCharAt(i);
+            }
+            text.append(draw(3) == 0 ? "" + draw(10) : "").append('>');
+        }
+        text.append(">".repeat(draw(8)));
+        write(run, x, y, text.toString());
+        due(run, "done", x.done(), y.done());
+    }
+
+    private void write(int run, FairWheel x, PlainWheel y, String text) {
         due(run, "wipe", x.wipe(), y.wipe());
         for (int i = 0; i < text.length(); i++) {
             due(run, "say", x.say(text.charAt(i)), y.say(text.charAt(i)));
         }
+    }
+
+    private void askTexts(int run, FairWheel x, PlainWheel y) {
+        StringBuilder text = new StringBuilder();
+        for (int tries = 0; tries < 60 && text.length() < 10; tries++) {
+            char sign = SIGNS.charAt(draw(SIGNS.length()));
+            write(run, x, y, text.toString());
+            if (y.canBeWith(sign)) {
+                text.append(sign);
+            }
+        }
+        write(run, x, y, text.toString());
+        for (int i = -1; i < text.length(); i++) {
+            due(run, "leftOut " + i + " of " + text, x.leftOut(i), y.leftOut(i));
+        }
+        for (int what = 0; what < 3; what++) {
+            due(run, "behind " + what + " " + text, x.behind(what), y.behind(what));
+            for (int car = 0; car < 8; car++) {
+                int person = draw(8);
+                due(run, "could " + person + " " + car + " " + what + " of " + text, x.could(person, car, what),
+                        y.could(person, car, what));
+            }
+        }
+        askFilled(run, x, y, text.toString());
+    }
+
+    /** The letters of a text that can be are asked for, and behind it people are seen where they are. */
+    private void askFilled(int run, FairWheel x, PlainWheel y, String text) {
+        StringBuilder asking = new StringBuilder(text);
+        for (int i = 0, asked = 0; i < text.length() && asked < 3; i++) {
+            if (text.charAt(i) >= 'A' && text.charAt(i) <= 'H' && draw(4) > 0) {
+                asking.setCharAt(i, '?');
+                asked++;
+            }
+        }
+        int sights = draw(4);
+        for (int i = 0; i < sights; i++) {
+            int car = draw(8);
+            int person = y.whoIsBehind(car);
+            if (person >= 0) {
+                due(run, "seen", x.seen(person, car), y.seen(person, car));
+            }
+        }
+        write(run, x, y, asking.toString());
+        for (int i = -1; i < 4; i++) {
+            due(run, "filled " + i + " of " + asking, x.filled(i), y.filled(i));
+        }
+    }
+
+    /** A text with a few that are not told, and sights that are mostly so. */
+    private int drawFilled(int run, FairWheel x, PlainWheel y) {
+        String[] texts = {"?", "?>?", "?^>?^", "A>?>^?", "?>>?>^>?^", "5?>^?", "??", "?a>?^", "?>?>?>?", "?<B<?^<?", "^?^>?^>?^"};
+        String text = texts[draw(texts.length)];
+        write(run, x, y, text);
         due(run, "forget", x.forget(), y.forget());
         int seen = draw(4) == 0 ? 7 : draw(3);
         for (int i = 0; i < seen; i++) {

@@ -17,9 +17,12 @@ public final class UntoldTest {
         filledRefuses();
         chance();
         chanceOfOneWhoStays();
+        chanceOfTheLastOne();
         chanceOfManyDraws();
         chanceRefuses();
         yearByHand();
+        yearOfTheLastSeed();
+        yearLeavesWhoIsThere();
         yearLeavesTheWheel();
         yearRefuses();
         image();
@@ -192,6 +195,7 @@ public final class UntoldTest {
         likely(x, 3, 0, 0, 1);
         likely(x, 3, 1, 1, 8);
         likely(x, 3, 3, 1, 8);
+        likely(x, 0, 1, 1, 8);
         Check.tell(x, "A>>>>");
         // one of seven gets in across, and it stands
         likely(x, 0, 1, 0, 1);
@@ -213,6 +217,20 @@ public final class UntoldTest {
         Check.tell(x, ">>C>D>E>F>G>H");
         likely(x, 7, 3, 1, 1);
         likely(x, 0, 3, 0, 1);
+    }
+
+    private static void chanceOfTheLastOne() {
+        FairWheel x = Check.told("A>B>C>D>E>F>G>");
+        likely(x, 7, 0, 0, 1);
+        likely(x, 7, 1, 1, 1);
+        x.weigh(0, 50);
+        // H holds it with A at the foot
+        likely(x, 7, 1, 0, 1);
+        likely(x, 0, 1, 1, 1);
+        x.weigh(7, 99);
+        likely(x, 0, 1, 1, 1);
+        likely(x, 0, 2, 0, 1);
+        likely(x, 7, 2, 1, 1);
     }
 
     /** The others weigh 1 to 7: who gets in at the car ahead of A's decides whether it turns back again. */
@@ -275,7 +293,31 @@ public final class UntoldTest {
         Check.due("A got out for C", x.year(1, 1, -1), 0);
         Check.tell(x, "a>>>>C<<<<A");
         Check.due("A got out, C is at the top already", x.year(1, 1, -1), 0);
-        Check.due("the longest", x.year(9999, 99, -1) >= 0 ? 1 : 0, 1);
+        x.weigh(2, 10);
+        Check.due("it turns on to C", x.year(1, 1, -1), 3);
+        Check.due("C is at the foot", x.year(1, 1, 4), 1);
+    }
+
+    private static void yearOfTheLastSeed() {
+        FairWheel x = new FairWheel();
+        x.weigh(2, 2);
+        // 749999 less 11 times 65537 is 29092; by 2: 14546, so C; by 16: 1818, so it is pushed, and C is too light
+        Check.due("pushed", x.year(9999, 1, 1), 1);
+        x.weigh(2, 3);
+        Check.due("back to C", x.year(9999, 1, 0), 1);
+        // then 19253, which is odd; by 2: 9626, so C, who gets out and in again; by 16: 1203, so it is pushed
+        Check.due("back to C again", x.year(9999, 2, -1), 2);
+        Check.due("twice car 0", x.year(9999, 2, 0), 2);
+    }
+
+    /** In the second turn of seed 0 E would get in, but F is there. */
+    private static void yearLeavesWhoIsThere() {
+        FairWheel x = new FairWheel();
+        x.weigh(4, 2);
+        Check.due("F turns it back", x.year(0, 2, -1), 1);
+        x.weigh(4, 10);
+        x.weigh(5, 2);
+        Check.due("F is too light", x.year(0, 2, -1), 0);
     }
 
     private static void yearLeavesTheWheel() {
