@@ -1,6 +1,7 @@
 /** Long runs of drawn calls, each answer held against PlainWheel's. The draws are the same each time. */
 public final class RandomRunsTest {
-    private static final int RUNS = 200, CALLS = 500, WHEELS = 250;
+    /** An object is asked 512 calls at most; the last text of a run may go 80 beyond CALLS. */
+    private static final int RUNS = 250, CALLS = 430, WHEELS = 250;
     private static final String SIGNS = "ABCDEFGHabcdefgh0123456789^^^^^^>>>><<<<";
 
     private long state;
@@ -258,7 +259,8 @@ public final class RandomRunsTest {
 
     /** A text with a few that are not told, and sights that are mostly so. */
     private int drawFilled(int run, FairWheel x, PlainWheel y) {
-        String[] texts = {"?", "?>?", "?^>?^", "A>?>^?", "?>>?>^>?^", "5?>^?", "??", "?a>?^", "?>?>?>?", "?<B<?^<?", "^?^>?^>?^"};
+        String[] texts = {"?", "?>?", "?^>?^", "A>?>^?", "?>>?>^>?^", "5?>^?", "??", "?a>?^", "?>?>?>?", "?<B<?^<?",
+            "^?^>?^>?^"};
         String text = texts[draw(texts.length)];
         write(run, x, y, text);
         due(run, "forget", x.forget(), y.forget());

@@ -117,8 +117,8 @@ public final class WheelsTest {
         Check.due("of all that can stand", x.fault(), FairWheel.NONE);
         for (int code = 33; code <= 126; code++) {
             boolean stands = "ABCDEFGHabcdefgh0123456789^><?".indexOf(code) >= 0;
-            Check.write(x, "A>" + (char) code);
-            Check.due("of code " + code, x.fault(), stands ? FairWheel.NONE : 2);
+            FairWheel y = Check.write(new FairWheel(), "A>" + (char) code);
+            Check.due("of code " + code, y.fault(), stands ? FairWheel.NONE : 2);
         }
         Check.write(x, "A.I.");
         Check.due("the first", x.fault(), 1);
