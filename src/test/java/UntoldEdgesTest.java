@@ -39,6 +39,7 @@ public final class UntoldEdgesTest {
         yearWithLettingOut();
         yearOnAFullWheel();
         yearCountsEachTurn();
+        yearOfLeastAndGreatestDraws();
         Check.end();
     }
 
@@ -569,5 +570,26 @@ public final class UntoldEdgesTest {
                 before = turned;
             }
         }
+    }
+
+    /** "x becomes (75 x and 74) left over by 65537" "by 2 (cut) left over by 8" "by 16 (cut) is left over by 3 as 0" */
+    private static void yearOfLeastAndGreatestDraws() {
+        FairWheel x = new FairWheel();
+        // seed 5242 becomes 2: B gets in, and by 16 that is 0, so it is pushed
+        Check.due("B turns it back", x.year(5242, 1, -1), 1);
+        x.weigh(1, 2);
+        Check.due("B is light", x.year(5242, 1, 1), 1);
+        // seed 3160 becomes 40463, 20097, 65535: by 16 that is 2528, 1256, 4095
+        x.drag(9999);
+        Check.due("not pushed twice", x.year(3160, 3, 0), 2);
+        Check.due("then pushed", x.year(3160, 3, 1), 1);
+        // 65535 is odd, and by 2 that is 32767: who is there gets out, and H gets in, who turns it back
+        x = Check.told("H");
+        x.weigh(7, 99);
+        for (int person = 0; person < 7; person++) {
+            x.weigh(person, 1);
+        }
+        Check.due("light ones let it stand", x.year(3160, 2, -1), 0);
+        Check.due("H does not", x.year(3160, 3, -1), 1);
     }
 }

@@ -13,6 +13,7 @@ public final class WheelsTest {
         wipe();
         fault();
         faultOfTheFourthAsked();
+        theLastCall();
         Check.end();
     }
 
@@ -139,5 +140,24 @@ public final class WheelsTest {
         Check.due("the fourth is ahead of the !", x.fault(), 3);
         Check.write(x, "!????");
         Check.due("the ! is ahead of the fourth", x.fault(), 0);
+    }
+
+    /** "An object is used for at most 512 calls": all of them answer. */
+    private static void theLastCall() {
+        FairWheel x = new FairWheel();
+        int calls = 0;
+        for (int weight = 1; weight <= 99; weight++) {
+            Check.due("weight " + weight, x.weigh(7, weight), weight == 1 ? 10 : weight - 1);
+            Check.due("pushed", x.say('>'), 1);
+            Check.due("an event", x.done(), 1);
+            Check.due("kept", x.image(weight % 2), 1);
+            Check.due("foot", x.foot(), weight % 8);
+            calls += 5;
+        }
+        for (int car = 0; calls < 510; calls++, car++) {
+            Check.due("the pebbles of a car", x.car(car % 8, 1), 0);
+        }
+        Check.due("call 511", x.restore(0), 1);
+        Check.due("call 512", x.told(17), 98);
     }
 }
