@@ -28,7 +28,7 @@ public final class RoomTest {
 
     private static long made() {
         ThreadMXBean threads = (ThreadMXBean) ManagementFactory.getThreadMXBean();
-        return threads.getThreadAllocatedBytes(Thread.currentThread().getId());
+        return threads.getCurrentThreadAllocatedBytes();
     }
 
     private static long round(FairWheel x, FairWheel y) {
